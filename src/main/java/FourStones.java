@@ -41,6 +41,8 @@ public final class FourStones {
     private static final int SHORTS = 1;
     private static final int INTS = 2;
 
+    private static final int WITHOUT_SIGN = 0x7fffffff;
+
     private static final int STONES_FOUND_AMONG = 4;
     private static final int LYINGS_FOUND_AMONG = 81;
 
@@ -262,7 +264,7 @@ public final class FourStones {
         if (k < 1 || k > 3 || m < 1 || m > 30 || n < 1 || n > 13 || what < 0 || what > 1) {
             return NO_SUCH;
         }
-        return what == 0 ? countSets(k, m, n) : firstSet(k, m, n);
+        return searchSets(k, m, n, what == 1);
     }
 
     // ---- lost, false, off
@@ -401,7 +403,7 @@ public final class FourStones {
         int seed = z;
         for (int i = 0; i < n; i++) {
             seed = seed * 1103515245 + 12345;
-            mindStones.add(1 + (seed & Integer.MAX_VALUE) / 65536 % 40, 0);
+            mindStones.add(1 + (seed & WITHOUT_SIGN) / 65536 % 40, 0);
         }
         mindLyings.layOut(mindStones);
         return firstNotHad(scale, mindLyings) - 1;
@@ -651,7 +653,7 @@ public final class FourStones {
 
     // ---- sets of stones for a list
 
-    /** The best set by which the list is had (a list names the fewest first, a purse the prices). */
+    /** The best set by which the list is had; of several equally good ones the first has the least bits. */
     private int bestSet(int d, int e, int there, boolean fewestFirst) {
         Scale scale = scales[d];
         if (scale == null) {
@@ -752,51 +754,28 @@ public final class FourStones {
 
     // ---- sets by which all is had
 
-    private static int countSets(int k, int m, int n) {
+    /** A smaller set is a set of three with weights 0 ahead: these weigh nothing and tell nothing. */
+    private static int searchSets(int k, int m, int n, boolean firstAlone) {
         int count = 0;
-        for (int least = leastFrom(k); least <= leastTo(k, m); least++) {
-            for (int middle = middleFrom(k, least); middle <= middleTo(k, m); middle++) {
+        int leastTo = k == 3 ? m : 0;
+        int middleTo = k >= 2 ? m : 0;
+        for (int least = k == 3 ? 1 : 0; least <= leastTo; least++) {
+            for (int middle = k >= 2 ? least + 1 : 0; middle <= middleTo; middle++) {
                 for (int greatest = middle + 1; greatest <= m; greatest++) {
-                    if (haveAll(least, middle, greatest, n)) {
-                        count++;
+                    if (!haveAll(least, middle, greatest, n)) {
+                        continue;
                     }
-                }
-            }
-        }
-        return count;
-    }
-
-    private static int firstSet(int k, int m, int n) {
-        for (int least = leastFrom(k); least <= leastTo(k, m); least++) {
-            for (int middle = middleFrom(k, least); middle <= middleTo(k, m); middle++) {
-                for (int greatest = middle + 1; greatest <= m; greatest++) {
-                    if (haveAll(least, middle, greatest, n)) {
+                    if (firstAlone) {
                         return least * 10000 + middle * 100 + greatest;
                     }
+                    count++;
                 }
             }
         }
-        return NONE;
+        return firstAlone ? NONE : count;
     }
 
-    /* A smaller set is a set of three with weights 0 ahead: these weigh nothing and tell nothing. */
-
-    private static int leastFrom(int k) {
-        return k == 3 ? 1 : 0;
-    }
-
-    private static int leastTo(int k, int m) {
-        return k == 3 ? m : 0;
-    }
-
-    private static int middleFrom(int k, int least) {
-        return k >= 2 ? least + 1 : 0;
-    }
-
-    private static int middleTo(int k, int m) {
-        return k >= 2 ? m : 0;
-    }
-
+    /** Bit w of byTwo: w is had by the lesser two; the greatest is then off, right or left. */
     private static boolean haveAll(int least, int middle, int greatest, int n) {
         long byTwo = 1L | 1L << least | 1L << middle | 1L << (middle - least) | 1L << (middle + least);
         for (int weight = 1; weight <= n; weight++) {
@@ -963,7 +942,7 @@ public final class FourStones {
         final int[] leftStones = new int[MOST_LYINGS];
         int count = 1;
 
-        /** Lying 0 is all off; each stone in turn doubles what is there: into one pan, into the other. */
+        /** Lying 0 is all off; each stone in turn adds all that is there with it right, then with it left. */
         void layOut(Stones stones) {
             count = 1;
             for (int stone = 0; stone < stones.count; stone++) {

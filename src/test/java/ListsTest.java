@@ -85,6 +85,10 @@ public final class ListsTest {
         list(x, 999);
         due("none", x.cheapest(D, E, 0, 0), -4);
         due("none, its price", x.cheapest(D, E, 0, 1), -4);
+        FourStones close = shop(9, 40, 4, 20, 5, 19);
+        list(close, 9);
+        due("cheaper by 1, though more and of greater bits", close.cheapest(D, E, 0, 0), 6);
+        due("the fewest all the same", close.list(D, E), 1);
         FourStones free = shop(9, 0, 9, 0);
         list(free, 9);
         due("free ones: the fewest and the least bits", free.cheapest(D, E, 0, 0), 1);
