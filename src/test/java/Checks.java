@@ -5,6 +5,11 @@ final class Checks {
     static final int SHORTS = 1;
     static final int INTS = 2;
 
+    private static final int CALLS = 512;
+
+    private static FourStones lent = new FourStones();
+    private static int lentTimes;
+
     private final String name;
     private int asked;
     private int wrong;
@@ -31,6 +36,16 @@ final class Checks {
         if (wrong > 0 || asked == 0) {
             System.exit(1);
         }
+    }
+
+    /** An object for one call that needs no stones and no shelves: a new one where the last one has been used up. */
+    static FourStones fresh() {
+        if (lentTimes == CALLS) {
+            lent = new FourStones();
+            lentTimes = 0;
+        }
+        lentTimes++;
+        return lent;
     }
 
     static void row(FourStones x, int d, int sort, int... cells) {

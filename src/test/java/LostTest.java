@@ -213,6 +213,7 @@ public final class LostTest {
         FourStones x = Checks.four();
         for (int z = -40; z < 40; z++) {
             int seed = z * 7654321;
+            x = Checks.four();
             for (int n = 1; n <= 6; n++) {
                 FourStones drawn = new FourStones();
                 int drawing = seed;
