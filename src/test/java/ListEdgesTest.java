@@ -133,6 +133,18 @@ public final class ListEdgesTest {
         E.stays("two right by THREE", () -> listed(Edges.scale(Edges.shop(1, 1, 2, 1, 4, 1), 4, 0), 14), x -> x.list(D, L), -4);
     }
 
+    private static void promise12AskedAgainForAnotherList() {
+        FourStones x = Edges.shop(SIX_BY_THREES);
+        int[][] lists = {{1}, {81}, {9, 1}, {220}, {3, 3, 3}, {221}, {1}};
+        int[] wants = {1, 16, 5, 63, 2, -4, 1};
+        for (int i = 0; i < lists.length; i++) {
+            listed(x, lists[i]);
+            E.due("list " + Arrays.toString(lists[i]), x.list(D, L), wants[i]);
+        }
+        Edges.scale(x, 3, 9);
+        E.due("1 by OFF: 9 and 1", x.list(D, L), 5);
+    }
+
     // ---- the cheapest
 
     private static void promise13PricesAheadOfFewest() {

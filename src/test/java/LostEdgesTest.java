@@ -460,6 +460,18 @@ public final class LostEdgesTest {
         unknown(stones, 1, 0, -4, 8, -50);
     }
 
+    private static void promise25EachStoneInEachPan() {
+        int alone = 1;
+        for (int stone = 0; stone < 6; stone++) {
+            unknown(BY_THREES, stone, 1, 42, alone, 42);
+            unknown(BY_THREES, stone, 1, 42, 2 * alone, -42);
+            unknown(BY_THREES, stone, 0, -4, alone, -42);
+            unknown(BY_THREES, stone, 0, -4, 2 * alone, 42);
+            unknown(BY_THREES, (stone + 1) % 6, 0, -4, alone, 42);
+            alone *= 3;
+        }
+    }
+
     private static void promise25WeighingsWithoutTheStone() {
         int[] stones = {50, 0, 99, 0};
         unknown(stones, 0, 99, 1, 0, 0);

@@ -429,6 +429,14 @@ public final class ScaleEdgesTest {
         E.due("hole", x.hole(D), 1);
     }
 
+    private static void promise10WeightsUpTo999CanBeHad() {
+        int[] stones = {99, 0, 1, 0, 1, 0, 1, 0, 1, 0, 1, 0};
+        E.stays("first of 998", () -> Edges.scale(Edges.shop(stones), 2, 9), x -> x.first(D, 998), Checks.lying("rllr"));
+        E.stays("first of 999", () -> Edges.scale(Edges.shop(stones), 2, 9), x -> x.first(D, 999), Checks.lying("rlr"));
+        E.stays("first of 1000", () -> Edges.scale(Edges.shop(stones), 2, 9), x -> x.first(D, 1000), Checks.lying("rr"));
+        E.stays("all the same from 1 on", () -> Edges.scale(Edges.shop(stones), 2, 9), x -> x.reach(D), 0);
+    }
+
     private static void promise10ShelvesInTheirOrder() {
         scaleShelves("reach", FourStones::reach);
         E.stays("no stones", Edges::bare, x -> x.reach(D), 0);

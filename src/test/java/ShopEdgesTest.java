@@ -231,6 +231,8 @@ public final class ShopEdgesTest {
     }
 
     private static void promise2Kind2ThePlaceOfTheFirstLetter() {
+        faulty("w9 1;w9 1;", -2000);
+        faulty("w0 0;p0 1;x;w5 1;", -2000);
         faulty("p0 1;w0 0;s0 0;w9 1;", -2005);
         faulty("x;p0 11;w9 9;x;", -2008);
         faulty("x;x;x;x;x;x;x;", -2012);
@@ -299,6 +301,18 @@ public final class ShopEdgesTest {
         faulty("x;w0 7;p0 7;s1 1;s1 1;", -2017);
         faulty("x;w0 7;p0 7;s1 1;s1 1", -1021);
         faulty("w5 1;p5 1;x;w5 1;", -2012);
+    }
+
+    private static void promise2TheNextShopBehindAFault() {
+        FourStones x = stones(3);
+        E.due("kind 2", Checks.read(x, "x;w0 90;x;p0 91;x;x;"), -2018);
+        E.due("kind 1", Checks.read(x, "s80 1;s81 1"), -1011);
+        read(x, "s70 1;", 1);
+        E.due("four STONES", x.count(0), 4);
+        E.due("the first", x.stone(0, 0), 1);
+        E.due("its PRICE", x.stone(0, 1), 0);
+        E.due("the fourth", x.stone(3, 0), 70);
+        E.due("no fifth", x.stone(4, 0), -1);
     }
 
     private static void promise2TheTextStays() {
@@ -482,6 +496,17 @@ public final class ShopEdgesTest {
         Checks.read(x, "w0 40;");
         x.restore();
         E.due("WEIGHT 0 behind a second restore", x.stone(0, 0), 1);
+    }
+
+    private static void promise29TheNextShopBehindIt() {
+        FourStones x = stones(2);
+        x.image();
+        Checks.read(x, "w0 90;s80 1;s81 1;");
+        x.restore();
+        read(x, "s70 1;", 1);
+        E.due("three STONES", x.count(0), 3);
+        E.due("the first", x.stone(0, 0), 1);
+        E.due("the third", x.stone(2, 0), 70);
     }
 
     private static void promise29WithoutAnImage() {
